@@ -1487,7 +1487,7 @@ public final class NightCarts {
         }
 
         void goThrough() {
-            for (int hour = 0; hour < HOURS; hour++) {
+            for (int hour = 0; hour < HOURS && !isIdle(); hour++) {
                 serveBefore((hour + 1) * MINUTES_OF_HOUR);
                 for (int i = 0; i < STREETS; i++) {
                     if (city.isTold(i) && sleepsAfter(hour, i)) {
@@ -1498,6 +1498,16 @@ public final class NightCarts {
             for (int i = 0; i < STREETS; i++) {
                 swept += depths[i];
             }
+        }
+
+        /** With no night anywhere and no cart to bring any, the hours that are left change nothing. */
+        private boolean isIdle() {
+            for (int i = 0; i < STREETS; i++) {
+                if (depths[i] > 0) {
+                    return false;
+                }
+            }
+            return arrivals[earliestCart()] >= MINUTES_OF_NIGHT;
         }
 
         boolean sleepsThrough(int i, int depth) {
@@ -1538,17 +1548,22 @@ public final class NightCarts {
         /** Only minutes in which a cart arrives matter, so the others are leapt over. */
         private void serveBefore(int end) {
             for (int turn = 0; turn < CARTS * MOST_STOPS; turn++) {
-                int next = 0;
-                for (int k = 1; k < CARTS; k++) {
-                    if (arrivals[k] < arrivals[next]) {
-                        next = k;
-                    }
-                }
+                int next = earliestCart();
                 if (arrivals[next] >= end) {
                     return;
                 }
                 serve(next);
             }
+        }
+
+        private int earliestCart() {
+            int earliest = 0;
+            for (int k = 1; k < CARTS; k++) {
+                if (arrivals[k] < arrivals[earliest]) {
+                    earliest = k;
+                }
+            }
+            return earliest;
         }
 
         private void serve(int k) {
