@@ -108,6 +108,7 @@ public final class PromisesTest {
         DUE.is("plan of an untold cart", Due.plan(x, 4, "a1,+2"), 2);
         DUE.is("cart(4, 99)", x.cart(4, 99), true);
         DUE.is("cart(0, 1)", x.cart(0, 1), true);
+        DUE.is("room of 0", x.count(90), 1);
         DUE.is("told carts", x.count(4), 17);
         DUE.is("cart(4, 7)", x.cart(4, 7), true);
         DUE.is("refused", x.cart(4, 100), false);
@@ -492,6 +493,11 @@ public final class PromisesTest {
         Due.plan(x, 0, "+10,b10");
         DUE.is("three nights with a cart", x.nights(3), 3 * 20 * 9);
         DUE.is("the night", x.count(0), 24);
+        Due.law(x, "s1(1=1)");
+        Due.roads(x, "ab59");
+        DUE.is("they start in minute 0", x.nights(1), 20 * 10);
+        Due.roads(x, "ab60");
+        DUE.is("a minute too late for the first hour", x.nights(1), 20 * 9);
     }
 
     private static void tried() {
@@ -656,6 +662,7 @@ public final class PromisesTest {
         DUE.is("one other", x.round(1, 8, 20), 4);
         DUE.is("one other", x.round(1, 8, 0), 3);
         DUE.is("no place 3", x.round(0, 14, 3), -1);
+        DUE.is("no place 4", x.round(0, 14, 4), -1);
         DUE.is("no place -1", x.round(0, 14, -1), -1);
         DUE.is("no place 19", x.round(0, 14, 19), -1);
         DUE.is("one can't be come to", x.round(0, 30, 20), -2);
@@ -709,6 +716,22 @@ public final class PromisesTest {
         DUE.is("no such what", x.share(1, 6, -1), -1);
         DUE.is("no such what", x.share(1, 6, 33), -1);
         DUE.is("nothing is left there", x.count(73), 0);
+        NightCarts y = city(3);
+        y.pour(2, 999);
+        int[] beside = {1, 2, 0};
+        for (int i = 0; i < 3; i++) {
+            DUE.is("the last is full, street " + i, y.share(3, 7, i), beside[i]);
+        }
+        y.pour(0, 997);
+        y.pour(1, 997);
+        y.nights(1);
+        for (int i = 0; i < 3; i++) {
+            y.pour(i, 997);
+        }
+        int[] full = {1, 2, 2};
+        for (int i = 0; i < 3; i++) {
+            DUE.is("all are nearly full, street " + i, y.share(5, 7, i), full[i]);
+        }
     }
 
     private static void sleepful() {
@@ -765,6 +788,12 @@ public final class PromisesTest {
         Due.roads(x, "ab5;bc5;ca5");
         DUE.is("of like ones the lowest", x.pitAt(0), 0);
         DUE.is("of like ones the lowest", x.pitAt(2), 0);
+        NightCarts y = city(1);
+        DUE.is("one street", y.pitAt(0), 0);
+        DUE.is("one street", y.pitAt(1), 0);
+        NightCarts z = new NightCarts();
+        z.street(5, 1, 1, 1);
+        DUE.is("one other street", z.pitAt(2), 5);
     }
 
     private static void cut() {
@@ -847,6 +876,8 @@ public final class PromisesTest {
         Due.law(x, "s1(1=1)");
         x.pour(2, 1);
         DUE.is("in all", x.oneStop(1, 1, 1), 300 + 200);
+        Due.roads(x, "ad59;ab60");
+        DUE.is("it starts in minute 0", x.oneStop(1, 1, 1), 300 + 400);
         DUE.is("a plan stays", x.count(102), 2);
         DUE.is("the other plan stays", x.count(101), 0);
         DUE.is("yards 0", x.oneStop(1, 0, 0), -1);
@@ -890,6 +921,7 @@ public final class PromisesTest {
         NightCarts y = city(2);
         DUE.is("more than are told", y.out(3, 0), -1);
         DUE.is("as many as are told", y.out(2, 1), 3);
+        DUE.is("six of seven", city(7).out(6, 0), -1);
     }
 
     private static void jobs(int carts, int what, int want, int... minutes) {
@@ -979,6 +1011,7 @@ public final class PromisesTest {
         brides(10, 0, 35, 30, 25, 20, 15, 10, 2, 3, 4, 5, 6, 7);
         brides(0, 7, 35, 30, 25, 20, 15, 10, 2, 3, 4, 5, 6, 7);
         brides(5, 2, 35, 30, 25, 20, 15, 10, 2, 3, 4, 5, 6, 7);
+        brides(5, 7, 10, 15, 20, 25, 30, 35, 2, 3, 4, 5, 6, 7);
         brides(0, 7, 0, 0, 0, 0, 0, 0, 7, 3, 4, 5, 6, 2);
         brides(10, -2, 1, 2, 3, 3);
         brides(10, -2, 1, 2, 3, 8);
@@ -1061,7 +1094,9 @@ public final class PromisesTest {
         Due.bytes(x, 1, 2, 3);
         DUE.is("n 0", x.latest(0), -1);
         DUE.is("n 7", x.latest(7), -1);
-        DUE.is("the tape stays", x.count(6), 20);
+        Due.bytes(x, 1, 2, 3);
+        DUE.is("n 7 of 40 bytes", x.latest(7), -1);
+        DUE.is("the tape stays", x.count(6), 40);
         NightCarts y = new NightCarts();
         y.street(1, 0, 0, 0);
         latest(y, -2, 1, 9, 9);
