@@ -44,6 +44,9 @@ public final class NightCarts {
     private static final int MOST_MISSING = 2550;
     private static final int MOST_LATEST = 6;
 
+    private static final int CANNOT_STAND = 1;
+    private static final int TOO_MANY = 4;
+
     private static final int THE_WHOLE = 20;
     private static final int IN_ALL = 10;
 
@@ -162,7 +165,8 @@ public final class NightCarts {
         }
         int slept = 0;
         for (int gone = 0; gone < n && city.night() < LAST_NIGHT; gone++) {
-            goThroughNight(0);
+            sendCarts(0);
+            night.goThrough();
             slept += night.slept();
             city.endNight(night.slept(), night.swept());
         }
@@ -173,7 +177,8 @@ public final class NightCarts {
         if (city.night() >= LAST_NIGHT || !canBeTried(what)) {
             return NONE;
         }
-        goThroughNight(0);
+        sendCarts(0);
+        night.goThrough();
         if (what < 10) {
             return night.total(what);
         }
@@ -265,7 +270,8 @@ public final class NightCarts {
         if (city.night() >= LAST_NIGHT || !isWithin(minute, 0, MINUTES_OF_NIGHT)) {
             return NONE;
         }
-        goThroughNight(minute);
+        sendCarts(minute);
+        night.goThrough();
         return night.slept();
     }
 
@@ -291,9 +297,10 @@ public final class NightCarts {
         int most = NOT_SO;
         for (int i = 0; i < STREETS; i++) {
             if (city.isTold(i)) {
-                int slept = sleptByOneStop(k, yards, i);
-                if (slept > most) {
-                    most = slept;
+                sendOneCart(k, yards, i);
+                night.goThrough();
+                if (night.slept() > most) {
+                    most = night.slept();
                     best = i;
                 }
             }
@@ -481,27 +488,23 @@ public final class NightCarts {
         return what < 40 ? isToldCart(what - 30) : isToldCart(what - 40);
     }
 
-    private void goThroughNight(int start) {
+    private void sendCarts(int start) {
         night.prepare();
         for (int k = 0; k < CARTS; k++) {
             if (isToldCart(k)) {
                 night.send(k, carts[k], start);
             }
         }
-        night.goThrough();
     }
 
-    private int sleptByOneStop(int k, int yards, int i) {
-        Cart cart = cartAt(k);
-        if (cart == null) {
-            return NOT_SO;
-        }
-        spareCart.tellRoom(cart.room());
-        spareCart.planOneStop(yards, i);
+    private void sendOneCart(int k, int yards, int i) {
         night.prepare();
-        night.send(k, spareCart, 0);
-        night.goThrough();
-        return night.slept();
+        Cart cart = cartAt(k);
+        if (cart != null) {
+            spareCart.tellRoom(cart.room());
+            spareCart.planOneStop(yards, i);
+            night.send(k, spareCart, 0);
+        }
     }
 
     private int partJobs(int n, int many, int what) {
@@ -553,12 +556,12 @@ public final class NightCarts {
     /** The bytes that are fed, and the place up to which a text on them is read. */
     private static final class Tape {
         private static final int END = -1;
-        private static final int CANNOT_STAND = 1;
 
         private final int[] bytes = new int[TAPE_ROOM];
         private int length;
         private int place;
         private int end;
+        private int sign;
         private int fault;
 
         boolean hasRoomFor(int many) {
@@ -579,7 +582,7 @@ public final class NightCarts {
 
         void addWord(int word) {
             for (int shift = 24; shift >= 0; shift -= 8) {
-                if (length < bytes.length) {
+                if (length < TAPE_ROOM) {
                     bytes[length] = word >>> shift & 255;
                     length++;
                 }
@@ -587,7 +590,7 @@ public final class NightCarts {
         }
 
         int at(int where) {
-            return isWithin(where, 0, length - 1) ? bytes[where] : END;
+            return where >= 0 && where < length ? bytes[where] : END;
         }
 
         int pairAt(int where) {
@@ -609,6 +612,7 @@ public final class NightCarts {
             place = 0;
             end = bytesOfText;
             fault = 0;
+            sign = end > 0 ? at(0) : END;
         }
 
         int place() {
@@ -616,7 +620,7 @@ public final class NightCarts {
         }
 
         int sign() {
-            return place < end ? at(place) : END;
+            return sign;
         }
 
         boolean isAtEnd() {
@@ -633,8 +637,10 @@ public final class NightCarts {
 
         void step() {
             place++;
+            sign = place >= 0 && place < end && place < length ? bytes[place] : END;
         }
 
+        /** Only the first fault counts: whatever is read behind it is for nothing. */
         void failAt(int number, int where) {
             if (fault == 0) {
                 fault = -1000 * number - where;
@@ -642,24 +648,26 @@ public final class NightCarts {
         }
 
         void fail(int number) {
-            failAt(number, place);
+            if (fault == 0) {
+                fault = -1000 * number - place;
+            }
         }
 
         boolean sees(int wanted) {
-            return isSound() && sign() == wanted;
+            return fault == 0 && sign == wanted;
         }
 
         boolean seesDigit() {
-            return isSound() && isWithin(sign(), '0', '9');
+            return fault == 0 && sign >= '0' && sign <= '9';
         }
 
         boolean seesStreet() {
-            return isSound() && isWithin(sign(), 'a', 'n');
+            return fault == 0 && sign >= 'a' && sign <= 'n';
         }
 
         void need(int wanted) {
             if (sees(wanted)) {
-                place++;
+                step();
             } else {
                 fail(CANNOT_STAND);
             }
@@ -671,8 +679,8 @@ public final class NightCarts {
             }
             int number = 0;
             for (int digits = 0; digits < mostDigits && seesDigit(); digits++) {
-                number = number * 10 + sign() - '0';
-                place++;
+                number = number * 10 + sign - '0';
+                step();
             }
             return number;
         }
@@ -695,7 +703,7 @@ public final class NightCarts {
         private int keptSwept;
 
         boolean isTold(int i) {
-            return isWithin(i, 0, STREETS - 1) && hasBit(told, i);
+            return i >= 0 && i < STREETS && (told >> i & 1) == 1;
         }
 
         boolean areTold(int bits, int most) {
@@ -716,19 +724,19 @@ public final class NightCarts {
         }
 
         int housesOf(int i) {
-            return isTold(i) ? houses[i] : 0;
+            return i >= 0 && i < STREETS ? houses[i] : 0;
         }
 
         int lampsOf(int i) {
-            return isTold(i) ? lamps[i] : 0;
+            return i >= 0 && i < STREETS ? lamps[i] : 0;
         }
 
         int starsOf(int i) {
-            return isTold(i) ? stars[i] : 0;
+            return i >= 0 && i < STREETS ? stars[i] : 0;
         }
 
         int depthOf(int i) {
-            return isTold(i) ? depths[i] : 0;
+            return i >= 0 && i < STREETS ? depths[i] : 0;
         }
 
         int deepen(int i, int yards) {
@@ -789,9 +797,7 @@ public final class NightCarts {
 
     /** The roads, and the shortest ways by them. */
     private static final class Roads {
-        private static final int CANNOT_STAND = 1;
         private static final int NO_MINUTES = 3;
-        private static final int TOO_MANY = 4;
         private static final int WITH_ITSELF = 6;
         private static final int UNTOLD = 7;
         private static final int PAIRS = STREETS * STREETS;
@@ -897,7 +903,7 @@ public final class NightCarts {
 
         /** Minutes of the shortest way, or below 0 where there is none. */
         int between(int i, int j) {
-            boolean areStreets = isWithin(i, 0, STREETS - 1) && isWithin(j, 0, STREETS - 1);
+            boolean areStreets = i >= 0 && i < STREETS && j >= 0 && j < STREETS;
             return areStreets ? ways[i * STREETS + j] : NOT_SO;
         }
 
@@ -992,9 +998,6 @@ public final class NightCarts {
 
     /** A cart's room and its plan. */
     private static final class Cart {
-        private static final int CANNOT_STAND = 1;
-        private static final int TOO_MANY = 4;
-
         private final int[] streets = new int[MOST_STOPS];
         private final int[] yards = new int[MOST_STOPS];
         private final boolean[] takes = new boolean[MOST_STOPS];
@@ -1178,7 +1181,7 @@ public final class NightCarts {
         private int reckon(int from, int to) {
             top = 0;
             isRefused = false;
-            for (int at = from; at < to && isWithin(at, 0, MOST_LAW_BYTES - 1) && !isRefused; at++) {
+            for (int at = from; at >= 0 && at < to && at < MOST_LAW_BYTES && !isRefused; at++) {
                 int sign = signs[at];
                 if (sign == NUMBER) {
                     push(worths[at]);
@@ -1187,7 +1190,9 @@ public final class NightCarts {
                 } else if (sign == '!') {
                     push(1 - pop());
                 } else if (sign == '&' || sign == '|') {
-                    if (isSettled(sign)) {
+                    int left = pop();
+                    if ((left == 0) == (sign == '&')) {
+                        push(left);
                         at = Math.max(at, worths[at] - 1);
                     }
                 } else {
@@ -1196,16 +1201,6 @@ public final class NightCarts {
                 }
             }
             return isRefused ? 0 : pop();
-        }
-
-        /** Whether the side on the left settles it; if not, that side is put away for the other one. */
-        private boolean isSettled(int sign) {
-            int left = pop();
-            boolean settled = sign == '&' ? left == 0 : left != 0;
-            if (settled) {
-                push(left);
-            }
-            return settled;
         }
 
         private int join(int left, int sign, int right) {
@@ -1226,18 +1221,18 @@ public final class NightCarts {
         }
 
         private int factAt(int place) {
-            return isWithin(place, 0, facts.length - 1) ? facts[place] : 0;
+            return place >= 0 && place < facts.length ? facts[place] : 0;
         }
 
         private void push(int number) {
-            if (isWithin(top, 0, STACK_ROOM - 1)) {
+            if (top >= 0 && top < STACK_ROOM) {
                 stack[top] = number;
                 top++;
             }
         }
 
         private int pop() {
-            if (!isWithin(top, 1, STACK_ROOM)) {
+            if (top < 1 || top > STACK_ROOM) {
                 return 0;
             }
             top--;
@@ -1247,9 +1242,7 @@ public final class NightCarts {
 
     /** Reads a law's text, the open brackets counted on the way down. */
     private static final class LawReader {
-        private static final int CANNOT_STAND = 1;
         private static final int TOO_LONG = 2;
-        private static final int TOO_MANY = 4;
         private static final int TOO_DEEP = 5;
         private static final int MOST_DIGITS = 5;
         private static final int MOST_OPEN = 6;
@@ -1375,10 +1368,7 @@ public final class NightCarts {
 
         private void readTest(Tape tape, int open) {
             if (tape.sees('!')) {
-                if (opens(tape, open)) {
-                    readTest(tape, open + 1);
-                    fresh.addSign('!', 0);
-                }
+                readNegation(tape, open);
             } else if (tape.sees('(')) {
                 if (opens(tape, open)) {
                     readChoice(tape, open + 1);
@@ -1386,6 +1376,13 @@ public final class NightCarts {
                 }
             } else {
                 readComparison(tape, open);
+            }
+        }
+
+        private void readNegation(Tape tape, int open) {
+            if (opens(tape, open)) {
+                readTest(tape, open + 1);
+                fresh.addSign('!', 0);
             }
         }
 
@@ -1450,7 +1447,7 @@ public final class NightCarts {
         }
 
         int depthOf(int i) {
-            return isWithin(i, 0, STREETS - 1) ? depths[i] : 0;
+            return i >= 0 && i < STREETS ? depths[i] : 0;
         }
 
         int loadOf(int k) {
@@ -1912,13 +1909,17 @@ public final class NightCarts {
                 return;
             }
             for (int k = 0; k < carts; k++) {
-                row[job] = k;
-                sums[k] += minutes[job];
-                if (sums[k] < longest) {
-                    give(job + 1);
-                }
-                sums[k] -= minutes[job];
+                giveTo(k, job);
             }
+        }
+
+        private void giveTo(int k, int job) {
+            row[job] = k;
+            sums[k] += minutes[job];
+            if (sums[k] < longest) {
+                give(job + 1);
+            }
+            sums[k] -= minutes[job];
         }
 
         private void keepRow() {
@@ -1971,10 +1972,14 @@ public final class NightCarts {
             }
             for (int p = 0; p < many; p++) {
                 if (!hasBit(taken, p)) {
-                    row[bride] = p;
-                    match(bride + 1, taken | 1 << p, missed + Math.max(0, wishes[bride] - stars[p]));
+                    matchWith(p, bride, taken, missed);
                 }
             }
+        }
+
+        private void matchWith(int p, int bride, int taken, int missed) {
+            row[bride] = p;
+            match(bride + 1, taken | 1 << p, missed + Math.max(0, wishes[bride] - stars[p]));
         }
     }
 }
