@@ -22,6 +22,15 @@ final class Due {
         }
     }
 
+    /** Streets 0 to many - 1, street i with 10 (i + 1) houses, i lamps and 5 i stars. */
+    static NightCarts city(int many) {
+        NightCarts x = new NightCarts();
+        for (int i = 0; i < many; i++) {
+            x.street(i, Math.min(99, 10 * (i + 1)), Math.min(9, i), 5 * i);
+        }
+        return x;
+    }
+
     /** Feeds the text, filled up with bytes 0 to a multiple of twenty: how many bytes it has of its own. */
     static int text(NightCarts x, String text) {
         int[] bytes = new int[text.length()];

@@ -44,15 +44,6 @@ public final class PromisesTest {
         DUE.end();
     }
 
-    /** Streets 0 to many - 1, street i with 10 (i + 1) houses, i lamps and 5 i stars. */
-    private static NightCarts city(int many) {
-        NightCarts x = new NightCarts();
-        for (int i = 0; i < many; i++) {
-            x.street(i, Math.min(99, 10 * (i + 1)), Math.min(9, i), 5 * i);
-        }
-        return x;
-    }
-
     private static void newObject() {
         NightCarts x = new NightCarts();
         DUE.is("NONE", NightCarts.NONE, -1);
@@ -117,7 +108,7 @@ public final class PromisesTest {
     }
 
     private static void pour() {
-        NightCarts x = city(2);
+        NightCarts x = Due.city(2);
         DUE.is("pour(2)", x.pour(2, 1), -1);
         DUE.is("pour(-1)", x.pour(-1, 1), -1);
         DUE.is("pour(14)", x.pour(14, 1), -1);
@@ -132,13 +123,13 @@ public final class PromisesTest {
     }
 
     private static void feed() {
-        NightCarts x = city(1);
+        NightCarts x = Due.city(1);
         for (int times = 1; times <= 13; times++) {
             DUE.is("feed", x.feed(0, 0, 0, 0, 0), 20 * times);
         }
         DUE.is("feed beyond 260", x.feed(1, 2, 3, 4, 5), -1);
         DUE.is("bytes", x.count(6), 260);
-        NightCarts y = city(2);
+        NightCarts y = Due.city(2);
         y.pour(0, 0x0102 % 1000);
         y.pour(1, 0x0304 % 1000);
         y.feed(0x01020304, 0, 0, 0, 0);
@@ -316,7 +307,7 @@ public final class PromisesTest {
     private static void lawBounds() {
         worth("s0-5(1=1)", 0);
         worth("s0(1=1)", 0);
-        NightCarts x = city(2);
+        NightCarts x = Due.city(2);
         Due.law(x, "s1000(1=1)");
         DUE.is("s 999 at most", x.enough(0), 999);
         x.cart(0, 99);
@@ -358,7 +349,7 @@ public final class PromisesTest {
     }
 
     private static void roadsFaults() {
-        NightCarts x = city(5);
+        NightCarts x = Due.city(5);
         roads(x, "ab1;cd99;ea05", 3);
         roads(x, "A", -1000);
         roads(x, "`b1", -1000);
@@ -400,7 +391,7 @@ public final class PromisesTest {
     }
 
     private static void roadsStay() {
-        NightCarts x = city(5);
+        NightCarts x = Due.city(5);
         roads(x, "ab1;ab7;cd9;ba3", 4);
         DUE.is("two roads", x.count(7), 2);
         DUE.is("the later one", x.way(0, 1), 3);
@@ -470,7 +461,7 @@ public final class PromisesTest {
     }
 
     private static void nights() {
-        NightCarts x = city(2);
+        NightCarts x = Due.city(2);
         DUE.is("nights(0)", x.nights(0), -1);
         DUE.is("nights(21)", x.nights(21), -1);
         DUE.is("nights(-1)", x.nights(-1), -1);
@@ -501,7 +492,7 @@ public final class PromisesTest {
     }
 
     private static void tried() {
-        NightCarts x = city(3);
+        NightCarts x = Due.city(3);
         x.cart(0, 20);
         x.cart(3, 9);
         Due.roads(x, "ab30;bc31");
@@ -527,7 +518,7 @@ public final class PromisesTest {
     }
 
     private static void triedCarts() {
-        NightCarts x = city(3);
+        NightCarts x = Due.city(3);
         x.cart(0, 20);
         Due.roads(x, "ab99;bc99");
         Due.plan(x, 0, "+20,b0,c5,b2");
@@ -562,7 +553,7 @@ public final class PromisesTest {
     }
 
     private static void triedEdges() {
-        NightCarts x = city(2);
+        NightCarts x = Due.city(2);
         x.cart(0, 99);
         x.cart(1, 99);
         Due.roads(x, "ab99");
@@ -602,14 +593,14 @@ public final class PromisesTest {
     }
 
     private static void triedFacts() {
-        NightCarts x = city(3);
+        NightCarts x = Due.city(3);
         x.cart(2, 99);
         Due.roads(x, "ab40;bc40");
         Due.plan(x, 2, "+9,b3,b3,c1,c0");
         Due.law(x, "u1(k=2&i=1&d=0&r=0);u2(k=2&i=1&d=3);u7(i=2&r=1&h=30&l=2&g=10&n=0);u0(1=1)");
         // b at 40 to 43, 43 to 49, c at 89 to 96
         DUE.is("u is asked then, ahead of that", x.tried(42), 96);
-        NightCarts y = city(1);
+        NightCarts y = Due.city(1);
         y.pour(0, 100);
         Due.law(y, "w10(d=100);c1(d=90);c50(d=100);s88(d=89&r=0)");
         DUE.is("c is asked behind w", y.tried(3), 1);
@@ -620,7 +611,7 @@ public final class PromisesTest {
         DUE.is("hour 9", y.tried(0), 10);
         Due.law(y, "w999(1=1)");
         DUE.is("none at depth 0", y.tried(0), 0);
-        NightCarts z = city(2);
+        NightCarts z = Due.city(2);
         z.cart(0, 10);
         z.cart(1, 10);
         Due.roads(z, "ab59");
@@ -632,7 +623,7 @@ public final class PromisesTest {
     }
 
     private static void way() {
-        NightCarts x = city(5);
+        NightCarts x = Due.city(5);
         Due.roads(x, "ab5;bc7;ac20;de99");
         DUE.is("way(0, 2)", x.way(0, 2), 12);
         DUE.is("way(2, 0)", x.way(2, 0), 12);
@@ -645,13 +636,13 @@ public final class PromisesTest {
         DUE.is("way(0, 14)", x.way(0, 14), -1);
         Due.roads(x, "ab5;bc7;ac11");
         DUE.is("the road itself", x.way(0, 2), 11);
-        NightCarts y = city(14);
+        NightCarts y = Due.city(14);
         Due.roads(y, "ab99;bc99;cd99;de99;ef99;fg99;gh99;hi99;ij99;jk99;kl99;lm99;mn99");
         DUE.is("the longest way", y.way(0, 13), 1287);
     }
 
     private static void round() {
-        NightCarts x = city(9);
+        NightCarts x = Due.city(9);
         Due.roads(x, "ab1;bc1;cd1;da1;ac5;bd5");
         DUE.is("round 20", x.round(0, 14, 20), 4);
         DUE.is("round 0", x.round(0, 14, 0), 1);
@@ -683,7 +674,7 @@ public final class PromisesTest {
     }
 
     private static void share() {
-        NightCarts x = city(7);
+        NightCarts x = Due.city(7);
         x.pour(0, 10);
         x.pour(1, 4);
         x.pour(2, 998);
@@ -716,7 +707,7 @@ public final class PromisesTest {
         DUE.is("no such what", x.share(1, 6, -1), -1);
         DUE.is("no such what", x.share(1, 6, 33), -1);
         DUE.is("nothing is left there", x.count(73), 0);
-        NightCarts y = city(3);
+        NightCarts y = Due.city(3);
         y.pour(2, 999);
         int[] beside = {1, 2, 0};
         for (int i = 0; i < 3; i++) {
@@ -735,7 +726,7 @@ public final class PromisesTest {
     }
 
     private static void sleepful() {
-        NightCarts x = city(9);
+        NightCarts x = Due.city(9);
         Due.law(x, "s20(i=0);s10(i=1);s10(i=2);s0(1=1)");
         x.pour(0, 5);
         x.pour(3, 1);
@@ -770,7 +761,7 @@ public final class PromisesTest {
     }
 
     private static void pitAt() {
-        NightCarts x = city(6);
+        NightCarts x = Due.city(6);
         DUE.is("no roads", x.pitAt(0), 0);
         DUE.is("no roads", x.pitAt(1), 0);
         DUE.is("no roads", x.pitAt(3), 0);
@@ -788,7 +779,7 @@ public final class PromisesTest {
         Due.roads(x, "ab5;bc5;ca5");
         DUE.is("of like ones the lowest", x.pitAt(0), 0);
         DUE.is("of like ones the lowest", x.pitAt(2), 0);
-        NightCarts y = city(1);
+        NightCarts y = Due.city(1);
         DUE.is("one street", y.pitAt(0), 0);
         DUE.is("one street", y.pitAt(1), 0);
         NightCarts z = new NightCarts();
@@ -797,7 +788,7 @@ public final class PromisesTest {
     }
 
     private static void cut() {
-        NightCarts x = city(7);
+        NightCarts x = Due.city(7);
         Due.roads(x, "ab1;bc1;ca1;gd1;dc1;ef1");
         DUE.is("how many", x.cut(0), 3);
         DUE.is("the first", x.cut(1), 2);
@@ -815,7 +806,7 @@ public final class PromisesTest {
     }
 
     private static void strike() {
-        NightCarts x = city(2);
+        NightCarts x = Due.city(2);
         x.cart(0, 50);
         Due.roads(x, "ab10");
         Due.plan(x, 0, "+50,b50");
@@ -834,7 +825,7 @@ public final class PromisesTest {
     }
 
     private static void enough() {
-        NightCarts x = city(2);
+        NightCarts x = Due.city(2);
         DUE.is("no law", x.enough(0), 1);
         x.pour(0, 1);
         DUE.is("no law", x.enough(0), 0);
@@ -859,7 +850,7 @@ public final class PromisesTest {
     }
 
     private static void oneStop() {
-        NightCarts x = city(4);
+        NightCarts x = Due.city(4);
         x.cart(1, 30);
         x.cart(2, 30);
         Due.roads(x, "ab10;bc60");
@@ -898,7 +889,7 @@ public final class PromisesTest {
     }
 
     private static void out() {
-        NightCarts x = city(5);
+        NightCarts x = Due.city(5);
         Due.law(x, "wl*3(r<2);wl(i=4);w50-l(i=1&r=9)");
         // street 0: none; 1: 6 and 1 less than nothing; 2: 12; 3: 18; 4: 24 + 32
         DUE.is("one", x.out(1, 0), 56);
@@ -918,10 +909,10 @@ public final class PromisesTest {
         x.pour(1, 7);
         DUE.is("less than nothing", x.out(4, 0), -10 - 300);
         DUE.is("less than nothing", x.out(4, 1), 15);
-        NightCarts y = city(2);
+        NightCarts y = Due.city(2);
         DUE.is("more than are told", y.out(3, 0), -1);
         DUE.is("as many as are told", y.out(2, 1), 3);
-        DUE.is("six of seven", city(7).out(6, 0), -1);
+        DUE.is("six of seven", Due.city(7).out(6, 0), -1);
     }
 
     private static void jobs(int carts, int what, int want, int... minutes) {
@@ -994,7 +985,7 @@ public final class PromisesTest {
     }
 
     private static void brides(int what, int want, int... bytes) {
-        NightCarts x = city(8);
+        NightCarts x = Due.city(8);
         Due.bytes(x, bytes);
         DUE.is("brides, what " + what, x.brides(bytes.length / 2, what), want);
         DUE.is("empty then", x.count(6), 0);
@@ -1021,7 +1012,7 @@ public final class PromisesTest {
         brides(-1, -4, 1, 2, 3, 4);
         brides(11, -4, 1, 2, 3, 4);
         brides(2, -2, 1, 2, 3, 3);
-        NightCarts x = city(8);
+        NightCarts x = Due.city(8);
         DUE.is("brides: it has not so many", x.brides(1, 10), -1);
         Due.bytes(x, 1, 2, 3);
         DUE.is("n 0", x.brides(0, 10), -1);
@@ -1073,7 +1064,7 @@ public final class PromisesTest {
     }
 
     private static void latest() {
-        NightCarts x = city(4);
+        NightCarts x = Due.city(4);
         Due.roads(x, "ab10;bc5");
         latest(x, 20, 1, 0, 30, 2, 0, 40);
         latest(x, 20, 1, 0, 30, 2, 0, 35);
@@ -1104,7 +1095,7 @@ public final class PromisesTest {
     }
 
     private static void keepAndUndo() {
-        NightCarts x = city(3);
+        NightCarts x = Due.city(3);
         x.cart(0, 9);
         x.pour(0, 5);
         x.pour(2, 8);
@@ -1136,7 +1127,7 @@ public final class PromisesTest {
     }
 
     private static void check() {
-        NightCarts x = city(3);
+        NightCarts x = Due.city(3);
         x.pour(0, 0x0123);
         x.pour(2, 4);
         Due.bytes(x, 1, 0x23, 0, 0, 0, 4);
@@ -1165,7 +1156,7 @@ public final class PromisesTest {
     }
 
     private static void count() {
-        NightCarts x = city(14);
+        NightCarts x = Due.city(14);
         x.street(13, 1, 2, 3);
         x.pour(13, 4);
         x.cart(4, 44);
@@ -1191,7 +1182,7 @@ public final class PromisesTest {
 
     /** A city of two streets and a cart in night 9998: 503 of the 512 calls are used. */
     private static NightCarts beforeLastNight() {
-        NightCarts x = city(2);
+        NightCarts x = Due.city(2);
         x.cart(0, 9);
         for (int call = 0; call < 499; call++) {
             x.nights(20);
