@@ -6,6 +6,7 @@ public final class ChoiceEdgesTest {
     public static void main(String[] args) {
         wayNumbers();
         wayNone();
+        wayOverTheLast();
         wayLongest();
         roundNumbers();
         roundPlaces();
@@ -17,18 +18,23 @@ public final class ChoiceEdgesTest {
         shareHoldsSoMany();
         shareGreatestLeast();
         shareLeastRow();
+        shareOfTheLast();
         sleepfulNumbers();
         sleepfulYards();
         sleepfulAboveZero();
         sleepfulOfLikeOnes();
+        sleepfulNobody();
         sleepfulAskedOnce();
+        sleepfulOfTheLast();
         pitAtNumbers();
         pitAtMostOthers();
         pitAtOfLikeOnes();
+        pitAtTheLast();
         cutNumbers();
         cutFirst();
         outNumbers();
         outLess();
+        outOfTheLast();
         outOfLikeOnes();
         jobsNumbers();
         jobsNoSuchCartsOrPlace();
@@ -50,6 +56,7 @@ public final class ChoiceEdgesTest {
         latestWithoutStaying();
         keepYards();
         undoWhatWasKept();
+        undoTheLast();
         checkNumbers();
         checkPlaces();
         countNumbers();
@@ -78,6 +85,22 @@ public final class ChoiceEdgesTest {
         DUE.is("promise 11: there is none", x.way(3, 1), -2);
         Due.roads(x, "ab1;cd1;bd1");
         DUE.is("promise 11: there is one", x.way(0, 2), 3);
+    }
+
+    /** The lowest and the highest street: 0 and 13. */
+    private static NightCarts bothEnds() {
+        NightCarts x = new NightCarts();
+        x.street(0, 10, 1, 5);
+        x.street(13, 20, 2, 7);
+        return x;
+    }
+
+    private static void wayOverTheLast() {
+        NightCarts x = Due.city(14);
+        Due.roads(x, "an1;nb2");
+        DUE.is("promise 11: over street 13", x.way(0, 1), 3);
+        Due.roads(x, "ba1;an2");
+        DUE.is("promise 11: over street 0", x.way(13, 1), 3);
     }
 
     private static void wayLongest() {
@@ -249,12 +272,21 @@ public final class ChoiceEdgesTest {
         }
     }
 
+    private static void shareOfTheLast() {
+        NightCarts x = bothEnds();
+        DUE.is("promise 13: streets 0 and 13", x.share(5, 1 | 1 << 13, 20), 2);
+        DUE.is("promise 13: street 0", x.share(5, 1 | 1 << 13, 0), 2);
+        DUE.is("promise 13: street 13", x.share(5, 1 | 1 << 13, 13), 3);
+    }
+
     // promise 14
 
     private static void sleepfulNumbers() {
         NightCarts x = Due.city(9);
         for (int yards : new int[] {-1, 301, FAR[0], FAR[2], FAR[4]}) {
-            DUE.is("promise 14: no such yards " + yards, x.sleepful(yards, 1, 0), -1);
+            for (int what = 0; what < 3; what++) {
+                DUE.is("promise 14: no such yards " + yards, x.sleepful(yards, 1, what), -1);
+            }
         }
         for (int streets : new int[] {0, 511, 512, 1 | 512, 1 << 14, 1 | 1 << 31, -1, FAR[0], FAR[4]}) {
             DUE.is("promise 14: no such streets " + streets, x.sleepful(1, streets, 0), -1);
@@ -312,6 +344,26 @@ public final class ChoiceEdgesTest {
         x.pour(0, 5);
         DUE.is("promise 14: without a yard, though no houses", x.sleepful(300, 15, 2), 15);
         DUE.is("promise 14: without a yard, though no houses", x.sleepful(0, 15, 2), 1);
+        x.street(1, 0, 0, 0);
+        x.street(2, 0, 0, 0);
+        x.pour(1, 3);
+        x.pour(2, 2);
+        DUE.is("promise 14: three without a yard, though no houses", x.sleepful(0, 15, 2), 7);
+        DUE.is("promise 14: three of four", x.sleepful(4, 15, 2), 15);
+    }
+
+    private static void sleepfulNobody() {
+        NightCarts x = Due.city(2);
+        int[] first = {30, 0, 3};
+        x.pour(0, 1);
+        x.pour(1, 1);
+        for (int what = 0; what < 3; what++) {
+            DUE.is("promise 14: both can, what " + what, x.sleepful(0, 3, what), first[what]);
+        }
+        x.nights(1);
+        for (int what = 0; what < 3; what++) {
+            DUE.is("promise 14: nobody can now, what " + what, x.sleepful(0, 3, what), 0);
+        }
     }
 
     private static void sleepfulAskedOnce() {
@@ -324,6 +376,14 @@ public final class ChoiceEdgesTest {
         Due.law(x, "s4(n=0);s6(n=1)");
         x.nights(1);
         DUE.is("promise 14: by the night", x.sleepful(300, 1, 1), 6);
+    }
+
+    private static void sleepfulOfTheLast() {
+        NightCarts x = bothEnds();
+        int[] wants = {20, 1, 1 << 13};
+        for (int what = 0; what < 3; what++) {
+            DUE.is("promise 14: street 13, what " + what, x.sleepful(1, 1 | 1 << 13, what), wants[what]);
+        }
     }
 
     // promise 15
@@ -376,6 +436,24 @@ public final class ChoiceEdgesTest {
         Due.roads(x, "ab6;cd5");
         DUE.is("promise 15: the nearer part", x.pitAt(0), 2);
         DUE.is("promise 15: the nearer part", x.pitAt(2), 2);
+    }
+
+    private static void pitAtTheLast() {
+        NightCarts x = Due.city(14);
+        Due.roads(x, "am9;mn1;nl9;kj1");
+        int[] wants = {12, 10, 12, 9 + 1 + 10};
+        for (int what = 0; what < 4; what++) {
+            DUE.is("promise 15: near street 13, what " + what, x.pitAt(what), wants[what]);
+        }
+        Due.roads(x, "an1;nb1;cd1");
+        int[] last = {13, 1, 13, 2};
+        for (int what = 0; what < 4; what++) {
+            DUE.is("promise 15: street 13, what " + what, x.pitAt(what), last[what]);
+        }
+        Due.roads(x, "ab1;bn9;cd2;de3");
+        DUE.is("promise 15: to street 13 it is far", x.pitAt(0), 3);
+        Due.roads(x, "ab1;bn1;cd2;de3");
+        DUE.is("promise 15: to street 13 it is near", x.pitAt(0), 1);
     }
 
     // promise 16
@@ -442,11 +520,21 @@ public final class ChoiceEdgesTest {
         DUE.is("promise 20: less than nothing", x.out(2, 0), -100);
         Due.law(x, "wl(r=0);wl*10(r=9)");
         DUE.is("promise 20: hours 0 and 9", x.out(1, 0), 9 + 90);
+        Due.law(x, "wl(k=0&i=0&n=0)");
+        DUE.is("k is 0 where no cart is told", x.out(1, 0), 90);
         Due.law(x, "wl(d>4)");
         DUE.is("promise 20: depth as it is", x.out(1, 0), 0);
         x.pour(0, 5);
         DUE.is("promise 20: depth as it is, in all hours", x.out(1, 0), 90);
         DUE.is("lamps are not put out for good", x.count(30), 9);
+    }
+
+    private static void outOfTheLast() {
+        NightCarts x = bothEnds();
+        Due.law(x, "wl(1=1)");
+        DUE.is("promise 20: street 13", x.out(1, 1), 1 << 13);
+        DUE.is("promise 20: street 13", x.out(1, 0), 20);
+        DUE.is("promise 20: streets 0 and 13", x.out(2, 0), 30);
     }
 
     private static void outOfLikeOnes() {
@@ -810,6 +898,18 @@ public final class ChoiceEdgesTest {
         x.pour(1, 4);
         x.undo();
         DUE.is("promise 27: as kept last, not as before", x.count(71), 14);
+    }
+
+    private static void undoTheLast() {
+        NightCarts x = bothEnds();
+        x.pour(0, 3);
+        x.pour(13, 4);
+        DUE.is("promise 26: streets 0 and 13", x.keep(), 7);
+        x.pour(13, 5);
+        x.pour(0, 6);
+        x.undo();
+        DUE.is("promise 27: street 0", x.count(70), 3);
+        DUE.is("promise 27: street 13", x.count(83), 4);
     }
 
     // promise 28

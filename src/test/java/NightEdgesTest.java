@@ -31,11 +31,14 @@ public final class NightEdgesTest {
         firstHourEnds();
         cartsByNumbers();
         sameMinuteWhatComesNext();
+        eightyStopsInAMinute();
         hourEndsWasteFirst();
         hourEndsNotBelowZero();
         sleepsBySOrMore();
         streetsByNumbers();
         sweptAtTheEnd();
+        lastStreetAlone();
+        untoldCartStays();
         triedNumbers();
         triedChangesNothing();
         triedLastStop();
@@ -47,6 +50,7 @@ public final class NightEdgesTest {
         oneStopNumbers();
         oneStopAlone();
         oneStopRoom();
+        oneStopInTheLast();
         oneStopOfLikeOnes();
         DUE.end();
     }
@@ -500,6 +504,20 @@ public final class NightEdgesTest {
         DUE.is("cart 0 goes on then", x.tried(40), 7);
     }
 
+    private static void eightyStopsInAMinute() {
+        NightCarts x = Due.city(1);
+        for (int k = 0; k < 5; k++) {
+            x.cart(k, 1);
+            Due.plan(x, k, Due.many(8, "+1,a1", ","));
+        }
+        DUE.is("all stops of all carts", x.tried(5), 80);
+        DUE.is("a yard at each second one", x.tried(10), 40);
+        Due.law(x, "s40(1=1)");
+        DUE.is("all in minute 0", x.tried(0), 100);
+        DUE.is("all in minute 59", x.strike(59), 100);
+        DUE.is("all in minute 599", x.strike(599), 10);
+    }
+
     private static void hourEndsWasteFirst() {
         NightCarts x = Due.city(1);
         x.pour(0, 100);
@@ -575,6 +593,32 @@ public final class NightEdgesTest {
             DUE.is("0 then", x.count(70 + i), 0);
         }
         DUE.is("promise 29: one night more", x.count(0), 1);
+    }
+
+    private static void lastStreetAlone() {
+        NightCarts x = new NightCarts();
+        x.street(13, 7, 0, 0);
+        x.pour(13, 5);
+        Due.law(x, "c1(r=9)");
+        DUE.is("street 13 sleeps", x.tried(0), 70);
+        DUE.is("street 13 is swept", x.tried(1), 4);
+        DUE.is("promise 18: street 13", x.enough(13), 0);
+        x.nights(1);
+        DUE.is("promise 29: slept", x.count(1), 70);
+        DUE.is("promise 29: depth", x.count(83), 0);
+        DUE.is("promise 18: street 13", x.enough(13), 2);
+    }
+
+    private static void untoldCartStays() {
+        NightCarts x = Due.city(2);
+        for (int k = 0; k < 5; k++) {
+            Due.plan(x, k, "+9,a9");
+        }
+        DUE.is("no cart is told: no stops", x.tried(5), 0);
+        x.cart(3, 9);
+        DUE.is("only the told one starts", x.tried(5), 2);
+        DUE.is("only the told one starts", x.tried(4), 9);
+        DUE.is("only the told one starts", x.strike(0), 100);
     }
 
     // promise 10
@@ -760,6 +804,14 @@ public final class NightEdgesTest {
         DUE.is("nothing is changed", x.count(72), 1);
         DUE.is("the plan is as before", x.count(100), 2);
         DUE.is("the plan is as before", x.tried(11), 9);
+        Due.roads(x, "ab59;ac1");
+        Due.law(x, "s1(1=1)");
+        x.nights(1);
+        Due.plan(x, 0, "c0,b0");
+        DUE.is("promise 19: by those two stops alone", x.oneStop(0, 1, 1), 300);
+        DUE.is("promise 19: by those two stops alone", x.oneStop(1, 1, 1), 300);
+        Due.plan(x, 1, "b0,c0");
+        DUE.is("promise 19: by those two stops alone", x.oneStop(1, 1, 1), 300);
     }
 
     private static void oneStopRoom() {
@@ -776,6 +828,15 @@ public final class NightEdgesTest {
         DUE.is("promise 19: ten minutes for taking on, in 59", x.oneStop(0, 10, 1), 200);
         Due.roads(x, "ab50");
         DUE.is("promise 19: in 60", x.oneStop(0, 10, 1), 180);
+    }
+
+    private static void oneStopInTheLast() {
+        NightCarts x = Due.city(14);
+        x.cart(4, 9);
+        x.street(13, 99, 0, 0);
+        Due.roads(x, "ab1;an1");
+        DUE.is("promise 19: street 13", x.oneStop(4, 9, 0), 13);
+        DUE.is("promise 19: street 13", x.oneStop(4, 9, 1), 990);
     }
 
     private static void oneStopOfLikeOnes() {

@@ -314,6 +314,8 @@ public final class TextEdgesTest {
         DUE.is("hours 0 to 3 by 4, hour 4 by 3, others by 2", x.tried(2), 4 * 4 + 3 + 5 * 2);
         law(x, Due.many(15, "w9(1=2)", ";") + ";w1(1=1)", 16);
         DUE.is("the sixteenth of sixteen", x.tried(2), 10);
+        law(x, Due.many(15, "w9/0(1=2)", ";") + ";w1(1=1)", 16);
+        DUE.is("the sixteenth of sixteen, the others being refused", x.tried(2), 10);
     }
 
     /** What each letter comes to at its bounds and beyond them. */
@@ -390,6 +392,12 @@ public final class TextEdgesTest {
         holds("1<1", false);
         holds("1>1", false);
         holds("1=1", true);
+        for (String test : "1=1 1<2 2>1 (1=1) !1=2 (1=2|1=1) (1=1&2=2)".split(" ")) {
+            holds(test, true);
+            holds("!" + test, false);
+            holds("!!" + test, true);
+            holds("!(" + test + ")", false);
+        }
         holds("!1=1&1=2", false);
         holds("!(1=1&1=2)", true);
         holds("1=2&1=2|1=1", true);
